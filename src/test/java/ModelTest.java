@@ -27,11 +27,13 @@ public final class ModelTest {
     private final ModelHouse model = new ModelHouse();
     private final Map<String, Integer> outcomes;
     private final String run;
+    private final boolean asksAlways;
 
     private ModelTest(int seed, Map<String, Integer> outcomes) {
         random = new Random(seed);
         this.outcomes = outcomes;
         run = "run " + seed + ": ";
+        asksAlways = seed % 2 == 0;
     }
 
     public static void main(String[] args) {
@@ -88,7 +90,10 @@ public final class ModelTest {
     private void any(String name) {
         switch (name) {
             case "addFlat" -> both(name, edge(0, 5), edge(1, random.nextBoolean() ? 30 : 99));
-            case "addTenant" -> both(name, edge(1, random.nextBoolean() ? 3 : 50), edge(0, 5), edge(1, 40), edge(0, 99));
+            case "addTenant" -> {
+                int heaviest = random.nextBoolean() ? 3 : 50;
+                both(name, edge(1, heaviest), edge(0, 5), edge(1, 40), edge(0, 99));
+            }
             case "removeTenant", "moveOut", "isPresent", "weightOf", "purseOf", "noticesOf", "flatOf",
                 "possibleFloors", "plannedFlat", "plannedFlatByPlans", "chainLength" -> both(name, tenant());
             case "moveIn", "burden", "flatByRank" -> both(name, tenant(), edge(0, 5));
@@ -181,7 +186,8 @@ public final class ModelTest {
             Check.end("ModelTest");
         }
         Check.same(name, got, due);
-        if (!real.isConsistent()) {
+        // Not in every run, so that a call can't lean on rows that this one has just filled.
+        if (asksAlways && !real.isConsistent()) {
             Check.yes(run + "consistent after " + name + Arrays.toString(arguments), false);
         }
     }

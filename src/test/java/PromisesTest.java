@@ -352,6 +352,11 @@ public final class PromisesTest {
         y.moveIn(0, 0);
         Check.is("moving in keeps notices", 1, () -> y.noticesOf(0));
         Check.is("no chain, no eviction", 0, y::evictions);
+        y.setRent(0, 99);
+        y.settle();
+        Check.is("removeTenant(0)", 0, () -> y.removeTenant(0));
+        Check.is("another tenant", 1, () -> y.addTenant(1, 0, 1, 0));
+        Check.is("has no notices", 0, () -> y.noticesOf(1));
     }
 
     private static void p10Pass() {
@@ -542,6 +547,8 @@ public final class PromisesTest {
         Check.is("possibleFloors of one in no flat", 0, () -> y.possibleFloors(0));
         Check.is("possibleFloors(5)", 1, () -> y.possibleFloors(5));
         Check.fails("no such tenant", NO_ELEMENT, () -> y.possibleFloors(6));
+        Check.is("by sets first", 720, () -> sixHoused(1, 1, 1, 1, 1, 1).censusesBySets());
+        Check.is("possibleFloors first", 6, () -> sixHoused(1, 1, 1, 1, 1, 1).possibleFloors(5));
         TenantCensus z = new TenantCensus();
         z.addFlat(1, 1);
         z.addFlat(1, 1);
