@@ -55,20 +55,9 @@ public final class PromisesTest {
 
     // ---- helpers
 
-    private static void type(TenantCensus x, String text) {
-        for (int index = 0; index < text.length(); index++) {
-            x.type(text.charAt(index));
-        }
-    }
-
-    private static int run(TenantCensus x, String text) {
-        type(x, text);
-        return x.run();
-    }
-
     private static void syntax(String text, int position) {
         TenantCensus x = new TenantCensus();
-        Check.fails("run of '" + text + "'", BAD_ARGUMENT, () -> run(x, text));
+        Check.fails("run of '" + text + "'", BAD_ARGUMENT, () -> Calls.run(x, text));
         Check.is("error position of '" + text + "'", position, x::errorPosition);
         Check.is("buffer afterwards", 1, () -> x.type('s'));
     }
@@ -817,32 +806,32 @@ public final class PromisesTest {
 
     private static void p47Run() {
         TenantCensus x = new TenantCensus();
-        Check.is("flats and tenants", 4, () -> run(x, "flat 4=9;flat 4=3;tenant 6@4+5/9;tenant 2@0+1/9"));
+        Check.is("flats and tenants", 4, () -> Calls.run(x, "flat 4=9;flat 4=3;tenant 6@4+5/9;tenant 2@0+1/9"));
         Check.is("rentOf(1)", 3, () -> x.rentOf(1));
         Check.is("weightOf(0)", 6, () -> x.weightOf(0));
         Check.is("wish 4", 9, () -> x.burden(0, 0));
         Check.is("purseOf(1)", 9, () -> x.purseOf(1));
-        Check.is("in and month", 3, () -> run(x, "in 0>0;in 1>1;month"));
+        Check.is("in and month", 3, () -> Calls.run(x, "in 0>0;in 1>1;month"));
         Check.is("flatOf(1)", 1, () -> x.flatOf(1));
         Check.is("one month", 1, x::month);
         Check.is("income 5", 5, () -> x.purseOf(0));
-        Check.is("out", 1, () -> run(x, "out 01"));
+        Check.is("out", 1, () -> Calls.run(x, "out 01"));
         Check.is("0 has moved", 1, () -> x.flatOf(0));
-        Check.is("rent, gift, settle, month", 4, () -> run(x, "rent 0=01;gift 01+20;settle;month 02"));
+        Check.is("rent, gift, settle, month", 4, () -> Calls.run(x, "rent 0=01;gift 01+20;settle;month 02"));
         Check.is("rentOf(0)", 1, () -> x.rentOf(0));
         Check.is("the gift, two incomes, two rents", 7 + 20 + 2 - 2, () -> x.purseOf(1));
         Check.is("months", 3, x::month);
         Check.is("the best flat for the lightest", 0, () -> x.flatOf(1));
         long received = x.received();
-        Check.fails("a program that fails", UNSUPPORTED, () -> run(x, "gift 1+9;flat 0=5;settle;month 3;out 9"));
+        Check.fails("a program that fails", UNSUPPORTED, () -> Calls.run(x, "gift 1+9;flat 0=5;settle;month 3;out 9"));
         Check.is("nothing of it is done", received, x::received);
         Check.is("flats", 2, x::flats);
         Check.is("month", 3, x::month);
         Check.is("the buffer is empty", 1, () -> x.type('m'));
-        Check.is("a program in parts", 1, () -> run(x, "onth"));
+        Check.is("a program in parts", 1, () -> Calls.run(x, "onth"));
         Check.is("the buffer is empty again", 1, () -> x.type('m'));
         Check.fails("a text that is no program", BAD_ARGUMENT, x::run);
-        Check.is("ten commands", 10, () -> run(x, "month;month;month;month;month;month;month;month;month;month"));
+        Check.is("ten commands", 10, () -> Calls.run(x, "month;month;month;month;month;month;month;month;month;month"));
         Check.is("month", 14, x::month);
     }
 
@@ -860,22 +849,22 @@ public final class PromisesTest {
         failing("rent 0=9");
         failing("gift 0+9");
         TenantCensus x = new TenantCensus();
-        Check.is("numbers of two digits", 1, () -> run(x, "tenant 50@5+40/99"));
-        Check.fails("in a flat that is not there", UNSUPPORTED, () -> run(x, "in 0>0"));
-        run(x, "flat 5=99;in 00>0");
+        Check.is("numbers of two digits", 1, () -> Calls.run(x, "tenant 50@5+40/99"));
+        Check.fails("in a flat that is not there", UNSUPPORTED, () -> Calls.run(x, "in 0>0"));
+        Calls.run(x, "flat 5=99;in 00>0");
         Check.is("in 00", 0, () -> x.flatOf(0));
-        Check.fails("in twice", UNSUPPORTED, () -> run(x, "in 0>0"));
-        Check.fails("gift of 0", UNSUPPORTED, () -> run(x, "gift 0+0"));
-        Check.fails("a rent of 0", UNSUPPORTED, () -> run(x, "rent 0=00"));
-        Check.fails("too dear", UNSUPPORTED, () -> run(x, "flat 0=99;tenant 1@0+1/98;in 1>1"));
+        Check.fails("in twice", UNSUPPORTED, () -> Calls.run(x, "in 0>0"));
+        Check.fails("gift of 0", UNSUPPORTED, () -> Calls.run(x, "gift 0+0"));
+        Check.fails("a rent of 0", UNSUPPORTED, () -> Calls.run(x, "rent 0=00"));
+        Check.fails("too dear", UNSUPPORTED, () -> Calls.run(x, "flat 0=99;tenant 1@0+1/98;in 1>1"));
         Check.is("flats", 1, x::flats);
-        run(x, "flat 0=1;flat 0=1;flat 0=1;flat 0=1;flat 0=1");
-        Check.fails("a seventh flat", UNSUPPORTED, () -> run(x, "flat 0=1"));
+        Calls.run(x, "flat 0=1;flat 0=1;flat 0=1;flat 0=1;flat 0=1");
+        Check.fails("a seventh flat", UNSUPPORTED, () -> Calls.run(x, "flat 0=1"));
     }
 
     private static void failing(String text) {
         TenantCensus x = new TenantCensus();
-        Check.fails("run of '" + text + "'", UNSUPPORTED, () -> run(x, text));
+        Check.fails("run of '" + text + "'", UNSUPPORTED, () -> Calls.run(x, text));
         Check.is("failedCommand of '" + text + "'", 0, x::failedCommand);
         Check.fails("errorPosition of '" + text + "'", NO_ELEMENT, x::errorPosition);
     }
@@ -927,28 +916,28 @@ public final class PromisesTest {
         syntax("settle\0", 6);
         syntax("month;month;month;month;month;month;month;month;month;month;", 60);
         TenantCensus x = new TenantCensus();
-        Check.fails("no program", BAD_ARGUMENT, () -> run(x, "set"));
-        run(x, "settle");
+        Check.fails("no program", BAD_ARGUMENT, () -> Calls.run(x, "set"));
+        Calls.run(x, "settle");
         Check.is("the position stays recorded", 3, x::errorPosition);
         x.save();
         x.restore();
         Check.is("and is no part of the state", 3, x::errorPosition);
         Check.fails("no command failed", NO_ELEMENT, x::failedCommand);
-        Check.fails("another one", BAD_ARGUMENT, () -> run(x, "sx"));
+        Check.fails("another one", BAD_ARGUMENT, () -> Calls.run(x, "sx"));
         Check.is("the latest", 1, x::errorPosition);
     }
 
     private static void p49FailedCommand() {
         TenantCensus x = new TenantCensus();
-        Check.fails("the third fails", UNSUPPORTED, () -> run(x, "month;settle;out 0;out 0"));
+        Check.fails("the third fails", UNSUPPORTED, () -> Calls.run(x, "month;settle;out 0;out 0"));
         Check.is("failedCommand", 2, x::failedCommand);
-        run(x, "month");
+        Calls.run(x, "month");
         Check.is("stays recorded", 2, x::failedCommand);
         x.undo();
         Check.is("and is no part of the state", 2, x::failedCommand);
-        Check.fails("a syntax error comes first", BAD_ARGUMENT, () -> run(x, "out 0;x"));
+        Check.fails("a syntax error comes first", BAD_ARGUMENT, () -> Calls.run(x, "out 0;x"));
         Check.is("which is no failed command", 2, x::failedCommand);
-        Check.fails("the first fails", UNSUPPORTED, () -> run(x, "out 0"));
+        Check.fails("the first fails", UNSUPPORTED, () -> Calls.run(x, "out 0"));
         Check.is("the latest", 0, x::failedCommand);
     }
 
@@ -1014,11 +1003,11 @@ public final class PromisesTest {
     private static void undoAndPrograms() {
         TenantCensus x = new TenantCensus();
         x.addFlat(1, 10);
-        run(x, "month;month;tenant 1@1+1/50;in 0>0");
+        Calls.run(x, "month;month;tenant 1@1+1/50;in 0>0");
         Check.is("moved in", 0, () -> x.flatOf(0));
         int length = x.writeFloor(1);
-        Check.fails("a failing program", UNSUPPORTED, () -> run(x, "month;out 9"));
-        type(x, "mon");
+        Check.fails("a failing program", UNSUPPORTED, () -> Calls.run(x, "month;out 9"));
+        Calls.type(x, "mon");
         Check.is("a program is one change, a failed one none", 1, x::undo);
         Check.is("month", 0, x::month);
         Check.is("tenants", 0, x::tenants);
@@ -1034,7 +1023,7 @@ public final class PromisesTest {
         for (int month = 0; month < 8; month++) {
             y.pass(1);
         }
-        Check.fails("a failing program costs no change", UNSUPPORTED, () -> run(y, "month;month;out 9"));
+        Check.fails("a failing program costs no change", UNSUPPORTED, () -> Calls.run(y, "month;month;out 9"));
         for (int left = 7; left >= 0; left--) {
             Check.is("undo", left, y::undo);
         }
@@ -1050,7 +1039,7 @@ public final class PromisesTest {
         Check.is("undo after save", 7, x::undo);
         x.pass(6);
         int length = x.writePlan();
-        type(x, "mont");
+        Calls.type(x, "mont");
         Check.is("restore", 2, x::restore);
         Check.is("month", 0, x::month);
         Check.is("received", 50, x::received);
