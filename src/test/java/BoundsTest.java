@@ -14,6 +14,7 @@ public final class BoundsTest {
     public static void main(String[] args) {
         p01NothingIsThere();
         p04HowManyStay();
+        p04TheOthersKeepAllThatIsTheirs();
         p05And06MoveInAndOut();
         p06NoNotices();
         p07RentOfAnyFlat();
@@ -25,6 +26,7 @@ public final class BoundsTest {
         p11To15FlatsFromNoneToSix();
         p16And17Present();
         p20ZeroOrOneNotice();
+        p20NobodyComesWithANotice();
         p23RanksOfFlats();
         p24RanksOfPurses();
         p25EveryFloor();
@@ -38,7 +40,9 @@ public final class BoundsTest {
         p37CoinsThatLeft();
         p40OneOrAll();
         p41NoneOrAll();
+        p42EveryHouseIsConsistent();
         p43FromAnEmptyFloorToSixFlats();
+        p43And44NumbersOfMoreDigits();
         p44FromNoTenantToSix();
         p45FirstAndLastCharacter();
         Check.end("BoundsTest");
@@ -81,6 +85,47 @@ public final class BoundsTest {
             Check.fails("purseOf the one who is gone", NO_ELEMENT, () -> x.purseOf(tenant));
         }
         Check.is("all that came is with those who left", 150, x::receivedByParts);
+    }
+
+    /** Whoever goes, the first, the last or one between, weights, wishes, incomes, purses and notices stay. */
+    private static void p04TheOthersKeepAllThatIsTheirs() {
+        for (int number = 0; number < 6; number++) {
+            int gone = number;
+            TenantCensus x = Houses.withFlats(20);
+            for (int tenant = 0; tenant < 6; tenant++) {
+                x.addTenant(11 + tenant, tenant, 1 + 2 * tenant, 20 + 5 * tenant);
+                x.setRent(0, 20);
+                x.moveIn(tenant, 0);
+                if (tenant % 2 == 0) {
+                    x.setRent(0, 99);
+                    x.pass(1);
+                }
+                x.setRent(0, 99);
+                // Settling leaves the notices, and nobody can afford a rent of 99.
+                x.settle();
+            }
+            int[] purses = new int[6];
+            for (int tenant = 0; tenant < 6; tenant++) {
+                purses[tenant] = x.purseOf(tenant);
+            }
+            x.removeTenant(gone);
+            for (int other = 0; other < 6; other++) {
+                if (other != gone) {
+                    int tenant = other;
+                    Check.is("weightOf", 11 + tenant, () -> x.weightOf(tenant));
+                    Check.is("the wish", 99 + 3 * tenant, () -> x.burden(tenant, 0));
+                    Check.is("purseOf", purses[tenant], () -> x.purseOf(tenant));
+                    Check.is("noticesOf", 1 - tenant % 2, () -> x.noticesOf(tenant));
+                }
+            }
+            x.pass(1);
+            for (int other = 0; other < 6; other++) {
+                if (other != gone) {
+                    int tenant = other;
+                    Check.is("the income", purses[tenant] + 1 + 2 * tenant, () -> x.purseOf(tenant));
+                }
+            }
+        }
     }
 
     /** "Who must live in no flat": moving out makes it so. */
@@ -297,6 +342,31 @@ public final class BoundsTest {
             Check.is("after month " + (month + 1), due[month], () -> x.noticesOf(0));
         }
         Check.is("nobody was evicted, as each second month pays", 0, x::evictions);
+    }
+
+    /** "A number of notices, initially 0", whatever the one before had. */
+    private static void p20NobodyComesWithANotice() {
+        TenantCensus x = Houses.withFlats(9);
+        for (int number = 0; number < 6; number++) {
+            comesAndGetsANotice(x, number);
+        }
+        int[] leaving = {5, 0, 7, 2, 9, 4};
+        for (int index = 0; index < 6; index++) {
+            x.removeTenant(leaving[index]);
+            comesAndGetsANotice(x, 6 + index);
+        }
+    }
+
+    private static void comesAndGetsANotice(TenantCensus x, int tenant) {
+        x.setRent(0, 9);
+        x.addTenant(1, 0, 1, 9);
+        Check.is("initially", 0, () -> x.noticesOf(tenant));
+        x.moveIn(tenant, 0);
+        x.setRent(0, 99);
+        x.pass(1);
+        Check.is("after a month", 1, () -> x.noticesOf(tenant));
+        x.settle();
+        Check.is("in no flat", 1, () -> x.noticesOf(tenant));
     }
 
     /** "Counted from 0 for the most preferred flat", "no such rank". */
@@ -594,6 +664,49 @@ public final class BoundsTest {
             Check.same("occupancy", x.occupancy(), (float) (tenant + 1) / 6.0f);
         }
         Check.same("none vacant", x.occupancy(), 1.0f);
+        TenantCensus y = Houses.withFlats(1, 1, 1);
+        y.addTenant(1, 0, 1, 1);
+        y.moveIn(0, 1);
+        Check.same("fewer tenants than flats", y.occupancy(), 1.0f / 3.0f);
+        TenantCensus z = Houses.withFlats(1);
+        z.addTenant(1, 0, 1, 1);
+        z.addTenant(1, 0, 1, 1);
+        Check.same("more tenants than flats", z.occupancy(), 0.0f);
+        z.moveIn(1, 0);
+        Check.same("more tenants than flats, one in it", z.occupancy(), 1.0f);
+    }
+
+    /** "Returns true if the invariants hold": they do, with the least and the most of everything. */
+    private static void p42EveryHouseIsConsistent() {
+        TenantCensus x = new TenantCensus();
+        Check.yes("nothing", x.isConsistent());
+        for (int index = 0; index < 6; index++) {
+            int step = index;
+            x.addFlat(step % 2 == 0 ? 0 : 5, step % 2 == 0 ? 1 : 99);
+            Check.yes("flats", x.isConsistent());
+            x.addTenant(step % 2 == 0 ? 1 : 50, step % 2 == 0 ? 5 : 0, step % 2 == 0 ? 1 : 40, step % 2 == 0 ? 0 : 99);
+            Check.yes("tenants", x.isConsistent());
+        }
+        for (int tenant = 0; tenant < 6; tenant++) {
+            x.give(tenant, 1);
+            x.moveIn(tenant, tenant);
+            Check.yes("all in flats", x.isConsistent());
+        }
+        for (int months = 0; months < 6; months++) {
+            x.pass(1);
+            x.setRent(2 * (months % 3), 99);
+            Check.yes("with notices, evictions and empty purses", x.isConsistent());
+        }
+        for (int tenant = 0; tenant < 6; tenant += 2) {
+            int one = tenant;
+            Check.outcome(() -> x.moveOut(one));
+            x.removeTenant(tenant);
+            Check.yes("with gaps", x.isConsistent());
+        }
+        x.addTenant(1, 0, 1, 0);
+        Check.yes("with a tenant behind the gaps", x.isConsistent());
+        Check.yes("the lively house", Houses.lively().isConsistent());
+        Check.yes("the full house", Houses.full().isConsistent());
     }
 
     // ---- output
@@ -618,6 +731,34 @@ public final class BoundsTest {
         Check.fails("writeFloor(6)", NO_INDEX, () -> x.writeFloor(6));
         Check.fails("writeFloor(-1)", NO_INDEX, () -> x.writeFloor(-1));
         Check.same("the line stays", Calls.line(x), "5~300 0=1:5 1=99:4 2=1:3 3=99:2 4=1:1 5=99:0");
+    }
+
+    /** Numbers of one, two and three digits, and the round ones among them. */
+    private static void p43And44NumbersOfMoreDigits() {
+        for (int rent : new int[] {1, 9, 10, 11, 19, 20, 90, 99}) {
+            TenantCensus x = Houses.withFlats(rent);
+            written("rent " + rent, x, x.writeFloor(0), "0~0 0=" + rent);
+        }
+        for (int creak : new int[] {2, 9, 10, 11, 19, 20, 21, 90, 99, 100}) {
+            TenantCensus x = Houses.withFlats(1, 1);
+            x.addTenant(creak / 2, 0, 1, 1);
+            x.addTenant(creak - creak / 2, 0, 1, 1);
+            x.moveIn(0, 1);
+            x.moveIn(1, 0);
+            written("creak " + creak, x, x.writeFloor(0), "0~" + creak + " 0=1:1 1=1:0");
+        }
+        for (int number : new int[] {1, 9, 10, 11, 19, 20, 99, 100, 101, 110, 200}) {
+            TenantCensus x = Houses.withFlats(1);
+            for (int before = 0; before < number; before++) {
+                x.addTenant(1, 0, 1, 1);
+                x.removeTenant(before);
+            }
+            x.addTenant(1, 0, 1, 1);
+            x.addTenant(1, 0, 1, 1);
+            x.moveIn(number, 0);
+            written("tenant " + number, x, x.writeFloor(0), "0~1 0=1:" + number);
+            written("tenant " + number, x, x.writePlan(), number + ">0 " + (number + 1) + ">-");
+        }
     }
 
     private static void written(String what, TenantCensus x, int length, String due) {

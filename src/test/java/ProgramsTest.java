@@ -1,5 +1,8 @@
+import java.util.List;
 import java.util.NoSuchElementException;
 import java.util.Set;
+import java.util.function.Supplier;
+import java.util.function.ToLongFunction;
 
 /** The boundary cases of programs, undo and snapshots: the grammar under "Terms", and promises 46 to 52. */
 public final class ProgramsTest {
@@ -20,6 +23,7 @@ public final class ProgramsTest {
         commandsBetweenSemicolons();
         commandsOutOfRange();
         commandsInTheLastPlaceOfTheirRange();
+        commandsCorrespond();
         p46SixtyCharacters();
         p46AnyCharacter();
         p47EmptyAfterwardsInEveryCase();
@@ -29,6 +33,7 @@ public final class ProgramsTest {
         p49TheLatestCommand();
         p50TheEightLatest();
         p50EveryKindOfChange();
+        p50And52WhatWasBefore();
         p50RoundTheRing();
         p50WhatStays();
         p51InPlaceOfTheOneBefore();
@@ -277,6 +282,41 @@ public final class ProgramsTest {
         Check.is("error position", 6, x::errorPosition);
     }
 
+    /** "The commands correspond to addFlat(floor, rent), .. settle() and pass(months)." */
+    private static void commandsCorrespond() {
+        corresponds("flat 4=7", x -> x.addFlat(4, 7));
+        corresponds("tenant 3@4+5/6", x -> x.addTenant(3, 4, 5, 6));
+        corresponds("in 1>2", x -> x.moveIn(1, 2));
+        corresponds("out 0", x -> x.moveOut(0));
+        corresponds("rent 2=3", x -> x.setRent(2, 3));
+        corresponds("gift 1+2", x -> x.give(1, 2));
+        corresponds("settle", TenantCensus::settle);
+        corresponds("month", x -> x.pass(1));
+        corresponds("month 7", x -> x.pass(7));
+    }
+
+    private static void corresponds(String command, ToLongFunction<TenantCensus> call) {
+        Twins.sameHouse("'" + command + "' and undo",
+            () -> {
+                TenantCensus x = threeAndTwo();
+                call.applyAsLong(x);
+                return x;
+            },
+            x -> {
+                x.undo();
+                return Calls.run(x, command);
+            });
+    }
+
+    /** Tenant 0 lives in flat 0; flats 1 and 2 are vacant, and tenant 1, who lives in none, is preferred. */
+    private static TenantCensus threeAndTwo() {
+        TenantCensus x = Houses.withFlats(10, 11, 12);
+        x.addTenant(2, 0, 1, 50);
+        x.addTenant(1, 2, 3, 50);
+        x.moveIn(0, 0);
+        return x;
+    }
+
     // ---- type and run
 
     /** "If the buffer contains 60 characters." */
@@ -365,11 +405,13 @@ public final class ProgramsTest {
             due += count;
             Check.is("month", due, x::month);
         }
-        for (int command = 0; command < 10; command++) {
-            String text = "month;".repeat(command) + "out 9";
-            Check.fails("command " + command, UNSUPPORTED, () -> Calls.run(x, text));
-            Check.is("failedCommand", command, x::failedCommand);
-            Check.is("month", due, x::month);
+        for (int number = 0; number < 10; number++) {
+            int command = number;
+            TenantCensus y = new TenantCensus();
+            y.pass(2);
+            Check.fails("command " + command, UNSUPPORTED, () -> Calls.run(y, "month;".repeat(command) + "out 9"));
+            Check.is("failedCommand", command, y::failedCommand);
+            Check.is("month", 2, y::month);
         }
     }
 
@@ -477,6 +519,55 @@ public final class ProgramsTest {
         Check.is("so is a program that changes nothing", 0, x::undo);
     }
 
+    /** "Undoes the latest change", "Restores the saved state": after every kind of change, all is as it was. */
+    private static void p50And52WhatWasBefore() {
+        List<ToLongFunction<TenantCensus>> changes = List.of(
+            x -> x.addFlat(1, 1), x -> x.addTenant(7, 1, 2, 3), x -> x.removeTenant(0), x -> x.removeTenant(3),
+            x -> x.moveIn(1, 2), x -> x.moveOut(0), x -> x.moveOut(1), x -> x.moveOut(2), x -> x.setRent(1, 77),
+            x -> x.give(1, 50), TenantCensus::settle, x -> x.pass(1), x -> x.pass(24),
+            x -> Calls.run(x, "month;rent 1=1;gift 1+2;settle;month 3"));
+        List<Supplier<TenantCensus>> makers = List.of(
+            () -> emptied(Houses.lively()), () -> emptied(Houses.full()), ProgramsTest::threeAndTwo,
+            ProgramsTest::goingWithANotice);
+        for (ToLongFunction<TenantCensus> change : changes) {
+            int made = 0;
+            for (Supplier<TenantCensus> maker : makers) {
+                made += isMade(maker.get(), change) ? 1 : 0;
+                Twins.sameHouse("a change and undo", maker, x -> isMade(x, change) ? x.undo() : 0);
+                Twins.sameHouse("save, a change and restore", maker, x -> {
+                    x.save();
+                    isMade(x, change);
+                    return x.restore();
+                });
+            }
+            Check.yes("the change is made in one of the houses", made > 0);
+        }
+    }
+
+    private static boolean isMade(TenantCensus x, ToLongFunction<TenantCensus> change) {
+        return !Check.outcome(() -> change.applyAsLong(x)).startsWith("throws.");
+    }
+
+    private static TenantCensus emptied(TenantCensus x) {
+        Check.outcome(x::run);
+        return x;
+    }
+
+    /** Tenant 0, who lives in no flat, has a notice; the slots of the others move when 0 goes away. */
+    private static TenantCensus goingWithANotice() {
+        TenantCensus x = Houses.withFlats(5);
+        x.addTenant(9, 3, 7, 5);
+        x.moveIn(0, 0);
+        x.setRent(0, 99);
+        x.pass(1);
+        x.settle();
+        x.addTenant(4, 2, 3, 20);
+        x.addTenant(6, 5, 11, 60);
+        x.setRent(0, 50);
+        x.moveIn(2, 0);
+        return x;
+    }
+
     /** "Undoes the latest change that was not undone", wherever the oldest one of the eight stands. */
     private static void p50RoundTheRing() {
         for (int before = 0; before < 20; before++) {
@@ -520,7 +611,7 @@ public final class ProgramsTest {
         Check.is("month", 1, x::month);
     }
 
-    /** "Saves the state in place of the state that was saved before." "Returns the number of tenants who are present." */
+    /** "Saves the state in place of the state that was saved before." */
     private static void p51InPlaceOfTheOneBefore() {
         TenantCensus x = new TenantCensus();
         for (int number = 0; number <= 6; number++) {

@@ -397,7 +397,7 @@ public final class RefusalsTest {
             Twins.writesOnly("writePlan", maker, TenantCensus::writePlan);
             Twins.runsOnly("type", maker, x -> x.type('x'));
             Twins.changesStateOnly("undo", maker, TenantCensus::undo);
-            Twins.changesStateOnly("save", maker, TenantCensus::save);
+            Twins.savesOnly("save", maker, TenantCensus::save);
             Twins.changesStateOnly("restore", maker, TenantCensus::restore);
             Twins.changesStateOnly("settle", maker, TenantCensus::settle);
             Twins.changesStateOnly("pass(24)", maker, x -> x.pass(24));

@@ -7,6 +7,8 @@ public final class TermsTest {
     private static final Class<IllegalStateException> BAD_STATE = IllegalStateException.class;
     private static final Class<UnsupportedOperationException> UNSUPPORTED = UnsupportedOperationException.class;
 
+    private static final int NONE = -1;
+
     private TermsTest() {
     }
 
@@ -28,6 +30,8 @@ public final class TermsTest {
         candidatesCanAffordTheFlat();
         theLongestChain();
         movingTwiceInAChain();
+        sixteenMovesInAChain();
+        noticesStayInAChain();
         theIncomeComesFirst();
         thePurseSuffices();
         theSecondNotice();
@@ -41,6 +45,8 @@ public final class TermsTest {
         plansGiveOnlyAffordableFlats();
         stablePlansLeaveNoFreeFlatThatIsPreferred();
         stablePlansLeaveNoFlatToAHeavierTenant();
+        sixTenantsAndAFlatThatNobodyWants();
+        askingOftenInARow();
         Check.end("TermsTest");
     }
 
@@ -354,6 +360,48 @@ public final class TermsTest {
         Check.is("vacantFlats", 1, x::vacantFlats);
     }
 
+    /** A chain has no bound but that nobody moves any more: in this one, all move again and again. */
+    private static void sixteenMovesInAChain() {
+        TenantCensus x = house(new int[][] {
+            {3, 20, 2, 5, 60}, {5, 15, 1, 0, 60}, {4, 18, 2, 0, 60}, {0, 20, 4, 2, 38}, {1, 12, 4, 5, 60},
+            {2, 19, 3, 3, 60},
+        });
+        for (int tenant = 0; tenant < 6; tenant++) {
+            x.moveIn(tenant, tenant);
+        }
+        Check.is("chainLength(0)", 16, () -> x.chainLength(0));
+        Check.is("moveOut(0)", 16, () -> x.moveOut(0));
+        Check.is("vacantFlats", 1, x::vacantFlats);
+        Check.yes("isConsistent", x.isConsistent());
+    }
+
+    /** Of each row: the floor and the rent of a flat, and the weight, the wish and the purse of a tenant. */
+    private static TenantCensus house(int[][] rows) {
+        TenantCensus x = new TenantCensus();
+        for (int[] row : rows) {
+            x.addFlat(row[0], row[1]);
+            x.addTenant(row[2], row[3], 1, row[4]);
+        }
+        return x;
+    }
+
+    /** Nobody but the one who moves out loses notices in a chain. */
+    private static void noticesStayInAChain() {
+        TenantCensus x = Houses.withFlats(5, 9);
+        x.addTenant(1, 0, 1, 9);
+        x.addTenant(2, 0, 1, 9);
+        x.moveIn(0, 0);
+        x.moveIn(1, 1);
+        x.setRent(1, 99);
+        x.pass(1);
+        Check.is("a notice", 1, () -> x.noticesOf(1));
+        Check.is("moveOut(0)", 1, () -> x.moveOut(0));
+        Check.is("1 has moved", 0, () -> x.flatOf(1));
+        Check.is("the notice stays", 1, () -> x.noticesOf(1));
+        x.setRent(0, 99);
+        Check.is("the second notice", 1, () -> x.pass(1));
+    }
+
     // ---- months
 
     /** "The tenant gets the income; then a tenant who lives in a flat pays its rent." */
@@ -541,8 +589,10 @@ public final class TermsTest {
         x.addTenant(2, 5, 1, 9);
         x.addTenant(1, 5, 1, 9);
         x.addTenant(3, 5, 1, 9);
+        Check.is("by sets first", 1, x::censusesBySets);
         spread(x, 1, 0);
         x.moveIn(0, 0);
+        Check.is("by sets first", 1, x::censusesBySets);
         spread(x, 1, 1);
         x.moveIn(1, 1);
         spread(x, 1, 1);
@@ -613,5 +663,44 @@ public final class TermsTest {
         Check.no("but flat 1", x.isStable());
         Check.is("plannedFlat(0)", 1, () -> x.plannedFlat(0));
         Check.is("plannedFlat(1)", 0, () -> x.plannedFlat(1));
+    }
+
+    /** A flat that is too dear for all six, and one that is worse than theirs for all who can afford it. */
+    private static void sixTenantsAndAFlatThatNobodyWants() {
+        TenantCensus x = Houses.withFlats(5, 5, 5, 5, 5, 99);
+        for (int tenant = 0; tenant < 6; tenant++) {
+            x.addTenant(1, 0, 1, 50);
+        }
+        Check.is("five get a flat", 5, x::settle);
+        Check.yes("nobody can afford the sixth", x.isStable());
+        Check.is("stablePlans", 1, x::stablePlans);
+        Check.fails("plannedFlat(5)", NO_ELEMENT, () -> x.plannedFlat(5));
+        Check.fails("plannedFlatByPlans(5)", NO_ELEMENT, () -> x.plannedFlatByPlans(5));
+        Check.yes("isConsistent", x.isConsistent());
+        x.setRent(5, 50);
+        Check.no("the last one wants it", x.isStable());
+        x.removeTenant(5);
+        Check.yes("nobody wants it", x.isStable());
+    }
+
+    /** "Letting tenants ask for flats": the last tenant's asking lets others ask, 26 times in all. */
+    private static void askingOftenInARow() {
+        TenantCensus x = house(new int[][] {
+            {2, 12, 2, 0, 9}, {1, 10, 4, 3, 11}, {0, 7, 3, 2, 60}, {3, 11, 2, 5, 10}, {5, 9, 2, 1, 60},
+            {3, 14, 1, 3, 8},
+        });
+        // The lightest come first: 5, then 0, 3 and 4, then 2, then 1; each takes the best of what is left.
+        int[] due = {4, NONE, 3, 1, 0, 2};
+        for (int number = 0; number < 6; number++) {
+            int tenant = number;
+            if (due[tenant] == NONE) {
+                Check.fails("plannedFlat", NO_ELEMENT, () -> x.plannedFlat(tenant));
+                Check.fails("plannedFlatByPlans", NO_ELEMENT, () -> x.plannedFlatByPlans(tenant));
+            } else {
+                Check.is("plannedFlat(" + tenant + ")", due[tenant], () -> x.plannedFlat(tenant));
+                Check.is("plannedFlatByPlans(" + tenant + ")", due[tenant], () -> x.plannedFlatByPlans(tenant));
+            }
+        }
+        Check.yes("isConsistent", x.isConsistent());
     }
 }

@@ -15,10 +15,11 @@ final class Twins {
         void ask(TenantCensus x, List<String> answers);
     }
 
-    private static final Questions[] STATE = {
-        Twins::houseAndAccounts, Twins::tenants, Twins::preferences, Twins::plansAndCensuses, Twins::undoing,
-        Twins::restoring, Twins::going,
+    private static final Questions[] HOUSE = {
+        Twins::houseAndAccounts, Twins::tenants, Twins::preferences, Twins::plansAndCensuses, Twins::going,
     };
+    private static final Questions UNDOING = Twins::undoing;
+    private static final Questions RESTORING = Twins::restoring;
     private static final Questions LINE = Twins::line;
     private static final Questions[] RECORDS = {Twins::records, Twins::buffer};
 
@@ -32,20 +33,20 @@ final class Twins {
 
     /** A call, whether it throws or not, that leaves everything as it was. */
     static void untouched(String what, Supplier<TenantCensus> maker, ToLongFunction<TenantCensus> call) {
-        same(what + ": the state", maker, call, STATE);
+        state(what, maker, call);
         same(what + ": the line", maker, call, LINE);
         same(what + ": buffer and records", maker, call, RECORDS);
     }
 
     /** A call that may write to the output line, but changes nothing else. */
     static void writesOnly(String what, Supplier<TenantCensus> maker, ToLongFunction<TenantCensus> call) {
-        same(what + ": the state", maker, call, STATE);
+        state(what, maker, call);
         same(what + ": buffer and records", maker, call, RECORDS);
     }
 
     /** A call that may change the program buffer and what run records, but nothing else. */
     static void runsOnly(String what, Supplier<TenantCensus> maker, ToLongFunction<TenantCensus> call) {
-        same(what + ": the state", maker, call, STATE);
+        state(what, maker, call);
         same(what + ": the line", maker, call, LINE);
     }
 
@@ -53,6 +54,24 @@ final class Twins {
     static void changesStateOnly(String what, Supplier<TenantCensus> maker, ToLongFunction<TenantCensus> call) {
         same(what + ": the line", maker, call, LINE);
         same(what + ": buffer and records", maker, call, RECORDS);
+    }
+
+    /** Calls after which all is as it was but for the saved state. */
+    static void savesOnly(String what, Supplier<TenantCensus> maker, ToLongFunction<TenantCensus> call) {
+        same(what + ": the house", maker, call, HOUSE);
+        same(what + ": what can be undone", maker, call, UNDOING);
+        changesStateOnly(what, maker, call);
+    }
+
+    /** Calls after which the house is as it was, whatever can be undone then. */
+    static void sameHouse(String what, Supplier<TenantCensus> maker, ToLongFunction<TenantCensus> call) {
+        same(what + ": the house", maker, call, HOUSE);
+    }
+
+    private static void state(String what, Supplier<TenantCensus> maker, ToLongFunction<TenantCensus> call) {
+        same(what + ": the house", maker, call, HOUSE);
+        same(what + ": what can be undone", maker, call, UNDOING);
+        same(what + ": what is saved", maker, call, RESTORING);
     }
 
     private static void same(String what, Supplier<TenantCensus> maker, ToLongFunction<TenantCensus> call,
