@@ -37,6 +37,7 @@ public final class BoundsTest {
         p33AsMoveOutSays();
         p34From1To24Months();
         p35To39FromNothing();
+        p35To38ThroughAll512Calls();
         p37CoinsThatLeft();
         p40OneOrAll();
         p41NoneOrAll();
@@ -610,6 +611,26 @@ public final class BoundsTest {
         Check.is("receivedByParts", received, x::receivedByParts);
         Check.is("paidRents", paid, x::paidRents);
         Check.is("evictions", evictions, x::evictions);
+    }
+
+    /** "An object is used for at most 512 calls": the largest sums that so many calls can bring about. */
+    private static void p35To38ThroughAll512Calls() {
+        TenantCensus x = Houses.withFlats(99);
+        for (int tenant = 0; tenant < 6; tenant++) {
+            x.addTenant(50, 0, 40, 99);
+        }
+        x.setRent(0, 1);
+        x.moveIn(5, 0);
+        for (int calls = 9; calls < 506; calls++) {
+            x.pass(24);
+        }
+        long months = 497 * 24;
+        Check.is("month", months, x::month);
+        Check.is("received", 6 * (99 + months * 40), x::received);
+        Check.is("receivedByParts", 6 * (99 + months * 40), x::receivedByParts);
+        Check.is("paidRents", months, x::paidRents);
+        Check.is("purseOf(5)", 99 + months * 39, () -> x.purseOf(5));
+        Check.yes("the 512th call: isConsistent", x.isConsistent());
     }
 
     /** "Of those that left with tenants": with an empty purse, and with a full one. */
