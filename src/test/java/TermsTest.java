@@ -7,8 +7,6 @@ public final class TermsTest {
     private static final Class<IllegalStateException> BAD_STATE = IllegalStateException.class;
     private static final Class<UnsupportedOperationException> UNSUPPORTED = UnsupportedOperationException.class;
 
-    private static final int NONE = -1;
-
     private TermsTest() {
     }
 
@@ -683,23 +681,18 @@ public final class TermsTest {
         Check.yes("nobody wants it", x.isStable());
     }
 
-    /** "Letting tenants ask for flats": the last tenant's asking lets others ask, 26 times in all. */
+    /** "Letting tenants ask for flats": the last tenant's asking lets others ask, and the 25th asking gets a flat. */
     private static void askingOftenInARow() {
         TenantCensus x = house(new int[][] {
-            {2, 12, 2, 0, 9}, {1, 10, 4, 3, 11}, {0, 7, 3, 2, 60}, {3, 11, 2, 5, 10}, {5, 9, 2, 1, 60},
-            {3, 14, 1, 3, 8},
+            {1, 27, 4, 3, 28}, {4, 26, 2, 5, 25}, {0, 25, 6, 1, 29}, {1, 30, 6, 2, 35}, {2, 29, 3, 0, 26},
+            {5, 23, 1, 0, 24},
         });
-        // The lightest come first: 5, then 0, 3 and 4, then 2, then 1; each takes the best of what is left.
-        int[] due = {4, NONE, 3, 1, 0, 2};
+        // The lightest come first: 5, 1, 4, 0, 2, 3; each takes the best of what is left and affordable.
+        int[] due = {0, 2, 4, 3, 1, 5};
         for (int number = 0; number < 6; number++) {
             int tenant = number;
-            if (due[tenant] == NONE) {
-                Check.fails("plannedFlat", NO_ELEMENT, () -> x.plannedFlat(tenant));
-                Check.fails("plannedFlatByPlans", NO_ELEMENT, () -> x.plannedFlatByPlans(tenant));
-            } else {
-                Check.is("plannedFlat(" + tenant + ")", due[tenant], () -> x.plannedFlat(tenant));
-                Check.is("plannedFlatByPlans(" + tenant + ")", due[tenant], () -> x.plannedFlatByPlans(tenant));
-            }
+            Check.is("plannedFlat(" + tenant + ")", due[tenant], () -> x.plannedFlat(tenant));
+            Check.is("plannedFlatByPlans(" + tenant + ")", due[tenant], () -> x.plannedFlatByPlans(tenant));
         }
         Check.yes("isConsistent", x.isConsistent());
     }
